@@ -603,6 +603,11 @@ public final class PromiseTest {
         SecretForces y = small();
         y.plan(1, 0, 1);
         Due.is("no entries of side 0", y.both(0), -100);
+        SecretForces z = new SecretForces();
+        // ties go to side 0: 70 against 07 gains 3 - 1, 61 against 07 too, 70 against 70 3 + 1
+        Due.tell(z, "fields 3 1; forces 7 7; ties 1; plan 0 70 weight 2 61 weight 1; plan 1 07 weight 1 70 weight 1");
+        // 61 against 70: -3 + 1; (2 * 2 + 2 + 2 * 4 - 2) of 6
+        isFraction("both, by ties", z.both(0), z.both(1), 2, 1);
     }
 
     private static void mean() {
@@ -611,6 +616,10 @@ public final class PromiseTest {
         isFraction("mean 0 1", x.mean(0, 1, 0), x.mean(0, 1, 1), 1, 2);
         isFraction("mean 1 0", x.mean(1, 0, 0), x.mean(1, 0, 1), 0, 1);
         isFraction("mean 1 1", x.mean(1, 1, 0), x.mean(1, 1, 1), 1, 1);
+        SecretForces y = new SecretForces();
+        Due.tell(y, "fields 3 1; forces 7 7; plan 0 70 weight 2 61 weight 1; plan 1 07 weight 1");
+        isFraction("mean of seven", y.mean(0, 0, 0), y.mean(0, 0, 1), 20, 3);
+        isFraction("mean of seven there", y.mean(1, 1, 0), y.mean(1, 1, 1), 7, 1);
         Due.is("no such field", x.mean(0, 2, 0), -1);
         Due.is("field below", x.mean(0, -1, 0), -1);
         Due.is("what 2", x.mean(0, 0, 2), -1);

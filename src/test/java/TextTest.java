@@ -135,6 +135,15 @@ public final class TextTest {
         fault("fields x", 7, 1);
         fault("fields 1 x", 9, 1);
         fault("fieldss 1", 0, 1);
+        fault("field 1", 0, 1);
+        fault("yields 1", 0, 1);
+        fault("porces 1 1", 0, 1);
+        fault("lies 1", 0, 1);
+        fault("tier 1", 0, 1);
+        fault("look 0 005", 0, 1);
+        fault("clan 0 005 weight 1", 0, 1);
+        fault("plan 0 005 height 1", 11, 1);
+        fault("plan 0 005 weights 1", 11, 1);
         fault("Fields 1", 0, 1);
         fault("fieldS 1", 0, 1);
         fault("1", 0, 1);
