@@ -349,7 +349,7 @@ public final class SecretForces {
     }
 
     public int entry(int side, int k, int what) {
-        if (!isSide(side)) {
+        if (!isSide(side) || what < 0 || what > 2) {
             return NONE;
         }
         Plan found = now.plans[side];
@@ -364,10 +364,8 @@ public final class SecretForces {
                 return found.list[k];
             case 1:
                 return found.weights[k];
-            case 2:
-                return found.drawn[k];
             default:
-                return NONE;
+                return found.drawn[k];
         }
     }
 

@@ -743,14 +743,14 @@ final class Model {
     }
 
     int entry(int side, int k, int what) {
-        if (side < 0 || side > 1) {
+        if (side < 0 || side > 1 || what < 0 || what > 2) {
             return -1;
         }
         List<List<Integer>> list = new ArrayList<>(plans.get(side).keySet());
         if (k == -1) {
             return list.size();
         }
-        if (k < 0 || k >= list.size() || what < 0 || what > 2) {
+        if (k < 0 || k >= list.size()) {
             return -1;
         }
         List<Integer> s = list.get(k);

@@ -512,6 +512,11 @@ public final class PromiseTest {
         Due.is("again it comes behind all", x.plan(0, 9, 4), 8);
         Due.is("there", x.entry(0, 7, 0) * 10 + x.entry(0, 7, 1), 94);
         Due.is("how many", x.entry(0, -1, 0), 8);
+        Due.is("how many, what 1", x.entry(0, -1, 1), 8);
+        Due.is("how many, what 2", x.entry(0, -1, 2), 8);
+        for (int what : new int[] {-1, 3, Integer.MIN_VALUE, Integer.MAX_VALUE}) {
+            Due.is("how many, what " + what, x.entry(0, -1, what), -1);
+        }
         Due.is("how many of side 1", x.entry(1, -1, 2), 0);
         Due.is("none such", x.plan(1, 15, 1), -1);
         Due.is("below", x.plan(1, -1, 1), -1);
