@@ -2,8 +2,19 @@
 final class Due {
     private static int right = 0;
     private static int wrong = 0;
+    private static String under = "";
 
     private Due() {
+    }
+
+    /** What the answers that follow belong to; it is printed before each that is not due. */
+    static void head(String words) {
+        under = words;
+    }
+
+    /** How many answers there were till now. */
+    static int asked() {
+        return right + wrong;
     }
 
     static void is(String call, long got, long want) {
@@ -21,7 +32,7 @@ final class Due {
         }
         wrong++;
         if (wrong <= 40) {
-            System.out.println(call + " answered " + got + ", due is " + want);
+            System.out.println(under + call + " answered " + got + ", due is " + want);
         }
     }
 
