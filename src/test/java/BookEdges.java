@@ -179,6 +179,23 @@ final class BookEdges {
         x = Edge.told("fields 1 1; forces 2 1; book 0 20 11 02; book 1 10 01");
         Due.same("11 alone is best", shares(x, 0), "0/1 1/1 0/1");
         Due.same("side 1 loses 1 by all", shares(x, 1), "1/1 0/1");
+        // gains 1 0, 0 1, 0 1: the last two are as good
+        x = Edge.told("fields 1 1; forces 4 3; book 0 04 31 40; book 1 03 30");
+        Due.same("the sooner of two alike", shares(x, 0), "1/2 1/2 0/1");
+        x = Edge.told("fields 1 1; forces 4 3; book 0 40 31 04; book 1 03 30");
+        Due.same("in another order", shares(x, 0), "1/2 0/1 1/2");
+        x = Edge.told("fields 1 1; forces 3 4; book 0 30 03; book 1 40 31 04");
+        Due.same("of side 1", shares(x, 1), "1/2 0/1 1/2");
+        // gains -1 -3, -1 1, -3 1: -1 is all that can be had, and 20 has one half at most
+        x = Edge.told("fields 1 2; forces 2 2; ties 2; book 0 20 11 02; book 1 02 20");
+        Due.same("as much of the first as can be", shares(x, 0), "1/2 1/2 0/1");
+        x = Edge.told("fields 1 2; forces 2 2; ties 2; book 0 02 11 20; book 1 02 20");
+        Due.same("in another order", shares(x, 0), "0/1 1/1 0/1");
+        // gains 0 -4 2, -2 0 4, 4 0 0: 0 is all that can be had, not by 200, and 020 has 2 of 3 at most
+        x = Edge.told("fields 1 2 3; forces 2 3; ties 1; book 0 200 020 011; book 1 201 012 120");
+        Due.same("none of the first, then the second", shares(x, 0), "0/1 2/3 1/3");
+        x = Edge.told("fields 1 2 3; forces 2 3; ties 1; book 0 011 020 200; book 1 201 012 120");
+        Due.same("in another order", shares(x, 0), "1/1 0/1 0/1");
 
         Doc.says(23, "The BEST share of the k-th SPLIT of a BOOK, above, below");
         Due.same("halves", shares(halves(), 0) + ", " + shares(halves(), 1), "1/2 1/2, 1/2 1/2");

@@ -327,6 +327,13 @@ final class DrawEdges {
         x = Edge.told("fields 5 1 1 1; forces 6 7");
         x.note(0, 83);
         Due.is("the 120th", x.against(1, 0), 119);
+        x = Edge.told("fields 1 1 1 1; forces 4 7");
+        x.note(1, 119);
+        // 1111 against 7000
+        Due.is("against the 120th", x.against(0, 1), 2);
+        x = Edge.told("fields 1 1 1 1; forces 7 4");
+        x.note(0, 119);
+        Due.is("against the 120th, side 1", x.against(1, 1), 2);
 
         Doc.says(39, "others");
         for (int wrong : Edge.NOT_0_1) {
@@ -355,6 +362,11 @@ final class DrawEdges {
         }
         x.note(1, 1);
         Edge.fraction("39 of 40, 99 of 100", x.apart(1, 0), x.apart(1, 1), 3, 200);
+        x = Edge.told("plan 0 005 weight 2 014 weight 1 023 weight 1");
+        x.note(0, 1);
+        x.note(0, 2);
+        // 0 1 1 of 2, 2 1 1 of 4
+        Edge.fraction("by the first split", x.apart(0, 0), x.apart(0, 1), 1, 2);
         x = Edge.told("plan 0 005 weight 1");
         x.note(0, 20);
         Edge.fraction("wholly, by the last split", x.apart(0, 0), x.apart(0, 1), 1, 1);
@@ -366,6 +378,9 @@ final class DrawEdges {
             x.note(1, 7);
         }
         Edge.fraction("one of eight alone", x.apart(1, 0), x.apart(1, 1), 7, 8);
+        x = Edge.told("fields 1 1 1 1; forces 7 7; plan 0 0007 weight 1 7000 weight 3");
+        x.note(0, 0);
+        Edge.fraction("3 of 4, of 120", x.apart(0, 0), x.apart(0, 1), 3, 4);
 
         Doc.says(40, "others");
         for (int wrong : Edge.NOT_0_1) {

@@ -93,6 +93,32 @@ final class Edge {
         Due.same("all behind " + call, sequel(x), sequel(from.get()));
     }
 
+    /** One new NOTE is all that was seen: nothing of before. It stays. */
+    static void nothingSeen(String behind, SecretForces x) {
+        for (int side = 0; side < 2; side++) {
+            Due.is("the first note behind " + behind, x.note(side, 0), 1);
+            Due.is("what it gains behind " + behind, x.against(1 - side, 1), mostAgainstFirst(x, 1 - side));
+        }
+    }
+
+    private static int mostAgainstFirst(SecretForces x, int side) {
+        int most = LEAST;
+        for (int i = 0; i < x.splits(side); i++) {
+            most = Math.max(most, side == 0 ? x.gain(i, 0) : -x.gain(0, i));
+        }
+        return most;
+    }
+
+    /** One new ENTRY is all of a PLAN: it has all WEIGHTS, and no turns. It goes again. */
+    static void nothingPlanned(String behind, SecretForces x) {
+        for (int side = 0; side < 2; side++) {
+            Due.is("the first entry behind " + behind, x.plan(side, 0, 7), 1);
+            fraction("its share behind " + behind, x.evenShare(side, 0, 0), x.evenShare(side, 0, 1), 1, x.shape(side, 0, 0));
+            Due.is("its turns behind " + behind, x.entry(side, 0, 2), 0);
+            Due.is("it goes behind " + behind, x.plan(side, 0, 0), 0);
+        }
+    }
+
     static void fraction(String call, int above, int below, int wantAbove, int wantBelow) {
         Due.same(call, above + "/" + below, wantAbove + "/" + wantBelow);
     }

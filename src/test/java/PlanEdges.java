@@ -269,6 +269,16 @@ final class PlanEdges {
         Edge.fraction("of side 1", x.evenShare(1, 3, 0), x.evenShare(1, 3, 1), 1, 4);
         x = Edge.told("fields 8; forces 5 4; plan 0 5 weight 99");
         Edge.fraction("all", x.evenShare(0, 0, 0), x.evenShare(0, 0, 1), 1, 1);
+        x = Edge.told("fields 1 7; forces 7 7; plan 0 " + ALL_EIGHT);
+        for (int i = 0; i < 8; i++) {
+            Edge.fraction("one of eight", x.evenShare(0, i, 0), x.evenShare(0, i, 1), 1, 8);
+        }
+        x.plan(0, 7, 0);
+        Edge.fraction("one that went", x.evenShare(0, 7, 0), x.evenShare(0, 7, 1), 0, 1);
+        Edge.fraction("one of seven", x.evenShare(0, 6, 0), x.evenShare(0, 6, 1), 1, 7);
+        x = Edge.told("fields 1 1 1 1; forces 7 7; plan 1 7000 weight 5");
+        Edge.fraction("of 120, the first", x.evenShare(1, 0, 0), x.evenShare(1, 0, 1), 1, 4);
+        Edge.fraction("of 120, the last", x.evenShare(1, 119, 0), x.evenShare(1, 119, 1), 1, 4);
         x = Edge.told("fields 1 1; forces 1 1; plan 0 01 weight 1 10 weight 98");
         Edge.fraction("two of one shape", x.evenShare(0, 0, 0), x.evenShare(0, 0, 1), 1, 2);
 
@@ -313,6 +323,14 @@ final class PlanEdges {
         Edge.fraction("0", x.both(0), x.both(1), 0, 1);
         x = Edge.told("fields 1; forces 0 1; plan 0 0 weight 3; plan 1 1 weight 2");
         Edge.fraction("-1, which is not refused", x.both(0), x.both(1), -1, 1);
+        x = Edge.told("fields 8; forces 3 3; plan 0 3 weight 2; plan 1 3 weight 5");
+        int[] byTies = {0, 8, -8};
+        for (int rule = 0; rule < 3; rule++) {
+            x.ties(rule);
+            Edge.fraction("as many, ties " + rule, x.both(0), x.both(1), byTies[rule], 1);
+            Edge.fraction("hold of side 0, ties " + rule, x.hold(0, 0), x.hold(0, 1), byTies[rule], 1);
+            Edge.fraction("hold of side 1, ties " + rule, x.hold(1, 0), x.hold(1, 1), -byTies[rule], 1);
+        }
 
         Doc.says(33, "others");
         for (int what : Edge.NOT_0_1) {

@@ -17,6 +17,8 @@ final class SettingEdges {
         for (int what = 5; what <= 10; what++) {
             Due.is("count(" + what + ") behind " + behind, x.count(what), 0);
         }
+        Edge.nothingSeen(behind, x);
+        Edge.nothingPlanned(behind, x);
     }
 
     private static void terms() {

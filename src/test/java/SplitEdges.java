@@ -86,6 +86,13 @@ final class SplitEdges {
             }
         }
 
+        Doc.says(Doc.TERMS, "of each FIELD how many, 0 at least, all its FORCES together");
+        SecretForces two = plain(2, 7, 0);
+        for (int i = 0; i < 8; i++) {
+            Due.is(i + " and " + (7 - i), two.split(0, i), 8 * i + 7 - i);
+        }
+        Due.is("none on all", two.split(1, 0), 0);
+
         Doc.says(9, "The i-th, read by eights");
         SecretForces x = new SecretForces();
         Due.is("005", x.split(0, 0), 5);
@@ -163,6 +170,24 @@ final class SplitEdges {
         x.ties(2);
         Due.is("4 - 1 - 2", x.gain(one, other), 1);
 
+        Doc.says(Doc.TERMS, "GAIN of SIDE 1 is as much below 0");
+        int[] byTies = {3, 5, 1};
+        x = Edge.told("fields 1 2 4; forces 3 3");
+        for (int ties = 0; ties < 3; ties++) {
+            x.ties(ties);
+            x.plan(0, one, 1);
+            x.plan(1, other, 1);
+            Due.is("of side 0, ties " + ties, x.both(0), byTies[ties]);
+        }
+        for (int ties = 0; ties < 3; ties++) {
+            SecretForces y = Edge.told("fields 8; forces 3 3; ties " + ties);
+            Due.is("safe, ties " + ties, y.safe(0, 0) + y.safe(1, 0), 0);
+            y.note(0, 0);
+            y.note(1, 0);
+            Due.is("seen, ties " + ties, y.against(0, 1) + y.against(1, 1), 0);
+            Due.is("gain, ties " + ties, y.against(1, 1), -y.gain(0, 0));
+        }
+
         Doc.says(11, "GAIN of SIDE 0 by two SPLITS, by numbers");
         x = plain(4, 7, 7);
         Due.is("the first ones", x.gain(0, 0), 0);
@@ -225,6 +250,8 @@ final class SplitEdges {
         Due.is("the first one", x.shape(0, x.number(0, 03210), 1), x.number(0, 0123));
         Due.is("up to the last one: all shapes", x.shape(1, x.splits(1) - 1, 2), x.shapes(1));
         Due.is("up to the first one", x.shape(1, 0, 2), 1);
+        SecretForces most = plain(4, 7, 7);
+        Due.same("the last of 120", of(most, 1, 119), "4 0 11");
         // 0006 0015 0024 0033 0042: the fifth begins none
         Due.is("the fourth begins one", x.shape(0, 3, 2), 4);
         Due.is("the fifth does not", x.shape(0, 4, 2), 4);
@@ -302,6 +329,12 @@ final class SplitEdges {
         SecretForces x = fourByTwo();
         Due.is("03 is worse than 12 and than 21", x.worse(0, 0, false), 1);
         Due.is("30 too, though 12 gains but as much against 10", x.worse(0, 3, false), 1);
+        x = Edge.told("fields 1 1; forces 1 2");
+        Due.is("02 of side 1 is worse than 11", x.worse(1, 0, false), 1);
+        Due.is("so is 20", x.worse(1, 2, false), 1);
+        Due.is("11 is not", x.worse(1, 1, false), -2);
+        Due.is("than the first one", Edge.told("fields 1 7; forces 1 1").worse(0, 1, false), 0);
+        Due.is("than the first one, side 1", Edge.told("fields 1 7; forces 1 1").worse(1, 1, false), 0);
         x = Edge.told("fields 1 1; forces 2 1; ties 2");
         for (int i = 0; i < 3; i++) {
             Due.is("gains are all the same: " + i + " is not worse", x.worse(0, i, false), -2);
@@ -317,6 +350,7 @@ final class SplitEdges {
         x = Edge.told("fields 7 1; forces 1 1");
         Due.is("of side 1 too", x.worse(1, 0, true), 1);
         Due.is("10 is not", x.worse(1, 1, true), -2);
+        Due.is("by the first one", Edge.told("fields 1 7; forces 1 1").worse(0, 1, true), 0);
 
         Doc.says(15, "none");
         x = fourByTwo();

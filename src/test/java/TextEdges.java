@@ -140,9 +140,28 @@ final class TextEdges {
         Due.is("books", x.count(5) * 10 + x.count(6), 22);
         Due.is("plans", x.count(7) * 10 + x.count(8), 22);
         Due.is("ties are told", x.count(3), 2);
+        String books = "3 0 2 0 0*2 3*3 0*2 2*3";
+        Due.same("books and plans as they were", listed(x), books);
+        x.ties(1);
+        Due.tell(x, "ties 0");
+        Due.same("as they were by a second text", listed(x), books);
+        x.ties(2);
+        Due.tell(x, "book 0 03");
+        Due.is("ties told one by one stay", x.count(3), 2);
+        Due.tell(x, "forces 1 2");
+        Due.is("ties stay by forces", x.count(3), 2);
+        Due.is("fields stay by forces", x.count(20) * 10 + x.count(21), 12);
+        x.forces(1, 7);
+        x.field(5);
+        Due.tell(x, "ties 1");
+        Due.is("fields told one by one stay", x.count(0) * 10 + x.count(22), 35);
+        Due.is("forces told one by one stay", x.count(1) * 10 + x.count(2), 17);
+        x = Edge.laden();
+        x.text(6);
 
         Doc.says(3, "NOTES are none, turns are begun anew; STATE stays");
         Due.is("notes", x.count(9) + x.count(10), 0);
+        Edge.nothingSeen("text", x);
         for (int side = 0; side < 2; side++) {
             Due.is("turns of side " + side, x.entry(side, 0, 2) + x.entry(side, 1, 2), 0);
             // weights 2 and 3: the second one is first
@@ -163,6 +182,20 @@ final class TextEdges {
         Due.is("splits are those of now", x.splits(0) * 10 + x.splits(1), 1201);
         Due.is("the book", x.book(0, 0) * 1000 + x.book(0, 1), 119);
         Due.is("the plan", x.split(0, x.entry(0, 0, 0)), 01123);
+    }
+
+    /** What BOOKS and PLANS of two hold. */
+    private static String listed(SecretForces x) {
+        StringBuilder b = new StringBuilder();
+        for (int side = 0; side < 2; side++) {
+            b.append(x.book(side, 0)).append(' ').append(x.book(side, 1)).append(' ');
+        }
+        for (int side = 0; side < 2; side++) {
+            for (int k = 0; k < 2; k++) {
+                b.append(x.entry(side, k, 0)).append('*').append(x.entry(side, k, 1)).append(' ');
+            }
+        }
+        return b.toString().trim();
     }
 
     /** Each byte there is, between a word and a number. */
@@ -197,6 +230,15 @@ final class TextEdges {
         fault("aties 1", 0, UNDUE);
         fault("tie 1", 0, UNDUE);
         fault("tiesties 1", 0, UNDUE);
+        for (String line : new String[] {"fields 1", "forces 1 1", "ties 1", "book 0 005", "plan 0 005 weight 1"}) {
+            fine(line, 1);
+            fault((char) (line.charAt(0) + 1) + line.substring(1), 0, UNDUE);
+            fault(line.substring(1), 0, UNDUE);
+        }
+        fault("plan 0 005 xeight 1", 11, UNDUE);
+        fault("plan 0 005 weighs 1", 11, UNDUE);
+        fault("plan 0 005 weigh 1", 11, UNDUE);
+        fault("plan 0 005 weights 1", 11, UNDUE);
         fault("a", 0, UNDUE);
         fault("z", 0, UNDUE);
     }
@@ -223,6 +265,14 @@ final class TextEdges {
     }
 
     private static void lines() {
+        Doc.says(Doc.TERMS, "; alone");
+        fine("ties 1;ties 1", 2);
+        fine("ties 1 ; ties 1", 2);
+        fault("ties 1:ties 1", 6, UNDUE);
+        fault("forces 1;2", 8, UNDUE);
+        fault("fie;lds 1", 0, UNDUE);
+        fault("book 0 005;014", 11, UNDUE);
+
         Doc.says(Doc.TERMS, "LINE { ; LINE }");
         fault("", 0, UNDUE);
         fault(" \n ", 3, UNDUE);
@@ -299,6 +349,9 @@ final class TextEdges {
         fine("fields 1; forces 7 0; book 0 7; book 1 0", 4);
         fault("fields 1; forces 7 0; book 0 07", 29, NO_SPLIT);
         fault("fields 1; forces 7 0; book 0 8", 29, NO_SPLIT);
+        // 8 and 9 are 10 and 11, read by eights
+        fault("fields 1 1; forces 1 0; book 0 08", 31, NO_SPLIT);
+        fault("fields 1 1; forces 2 0; book 0 09", 31, NO_SPLIT);
         fault("fields 1 1; forces 7 0; book 0 16 25; book 1 0", 45, NO_SPLIT);
 
         Doc.says(Doc.TERMS, "plan SIDE ENTRY { ENTRY }");
@@ -346,6 +399,7 @@ final class TextEdges {
             x.text(0);
             Due.is(line, Due.tell(x, line), 1);
             Due.is("books, plans behind " + line, x.count(5) + x.count(6) + x.count(7) + x.count(8), 0);
+            Edge.nothingPlanned(line, x);
             x = Edge.laden();
             x.text(0);
             Due.is("told before it", Due.tell(x, "book 0 12; plan 1 11 weight 1; " + line), 3);
@@ -360,6 +414,7 @@ final class TextEdges {
         Due.is("all else", x.count(6) * 100 + x.count(7) * 10 + x.count(8), 222);
         Due.is("a plan", Due.tell(x, "plan 1 11 weight 7"), 1);
         Due.is("it alone", x.entry(1, -1, 0) * 100 + x.entry(1, 0, 0) * 10 + x.entry(1, 0, 1), 117);
+        Edge.fraction("it has all", x.evenShare(1, 1, 0), x.evenShare(1, 1, 1), 1, 1);
         Due.is("all else", x.count(5) * 100 + x.count(6) * 10 + x.count(7), 122);
         Due.is("twice", Due.tell(x, "book 1 02; book 1 20 11; plan 0 03 weight 1; plan 0 30 weight 2"), 4);
         Due.is("the last one counts", x.book(1, -1) * 100 + x.book(1, 0) * 10 + x.book(1, 1), 221);
