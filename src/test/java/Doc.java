@@ -1,6 +1,7 @@
 import java.io.IOException;
 import java.nio.file.Files;
 import java.nio.file.Path;
+import java.util.Arrays;
 import java.util.HashSet;
 import java.util.Map;
 import java.util.Set;
@@ -17,6 +18,9 @@ final class Doc {
     private static final Pattern REFUSAL =
         Pattern.compile("(?:NONE(?: - [0-9]+)?|-2|NoSuchElementException): ([^.;(]+)");
     private static final Pattern BOUND = Pattern.compile("\\([0-9]+ to [0-9]+\\)|\\([ik] NONE\\)");
+    /** Heads, the calls' names, and signs ahead of refusals, whose words are counted by themselves. */
+    private static final Pattern FRAME = Pattern.compile("(?m)^[0-9]+: [\\w ]+$|^`[^`]*`:|^```\\w*$|==== 2\\."
+        + "|(?:NONE(?: - [0-9]+)?|-2|NoSuchElementException): ");
 
     private static final Map<Integer, String> PARTS = parts();
     private static final Map<Integer, Set<String>> TESTED = new TreeMap<>();
@@ -56,7 +60,29 @@ final class Doc {
         Due.holds("some answer stands for these words", Due.asked() > askedBefore);
     }
 
-    /** Each refusal and each bound that a promise names has been told by says. */
+    /** What stands ahead of 'Terms' says in short what they say, or is read by FaceTest; so are heads of calls. */
+    private static String toTell(int promise, String part) {
+        return promise != TERMS ? part : part.split("\n## Terms\n")[1].split("\n\nAhead of the calls")[0];
+    }
+
+    /** No word of the document has been left out: each stands in words that says was given. */
+    private static void nothingLeft(int promise, String part, Set<String> told) {
+        char[] rest = part.toCharArray();
+        Matcher m = FRAME.matcher(part);
+        while (m.find()) {
+            Arrays.fill(rest, m.start(), m.end(), '\n');
+        }
+        for (String words : told) {
+            for (int at = part.indexOf(words); at >= 0; at = part.indexOf(words, at + 1)) {
+                Arrays.fill(rest, at, at + words.length(), '\n');
+            }
+        }
+        for (String words : new String(rest).split("\n")) {
+            Due.holds("promise " + promise + ", '" + words + "' has a test", !words.matches(".*[A-Za-z0-9].*"));
+        }
+    }
+
+    /** Each refusal and each bound that a promise names has been told by says, and all other words. */
     static void allSaid() {
         endSentence();
         Due.head("");
@@ -64,6 +90,7 @@ final class Doc {
         PARTS.forEach((promise, part) -> {
             Set<String> told = TESTED.getOrDefault(promise, Set.of());
             Due.holds("promise " + promise + " has a test", !told.isEmpty());
+            nothingLeft(promise, toTell(promise, part), told);
             if (promise == TERMS) {
                 return;
             }

@@ -10,6 +10,8 @@ public final class EdgeTest {
         BookEdges.all();
         PlanEdges.all();
         DrawEdges.all();
+        Meanings.all();
+        GameMeanings.all();
         Doc.allSaid();
         Due.end("EdgeTest");
     }
