@@ -1,74 +1,104 @@
+import java.io.IOException;
 import java.lang.reflect.Constructor;
 import java.lang.reflect.Field;
 import java.lang.reflect.Member;
 import java.lang.reflect.Method;
 import java.lang.reflect.Modifier;
+import java.nio.file.Files;
+import java.nio.file.Path;
+import java.util.ArrayList;
 import java.util.Arrays;
 import java.util.List;
 import java.util.TreeSet;
+import java.util.regex.Matcher;
+import java.util.regex.Pattern;
 import java.util.stream.Collectors;
 
 /** The public face of the document, and nothing else that can be seen from outside. */
 public final class FaceTest {
-    private static final String FACE = """
-        int feed(int,int,int,int,int)
-        int text(int)
-        int field(int)
-        int lose()
-        int forces(int,int)
-        int ties(int)
-        int splits(int)
-        int split(int,int)
-        int number(int,int)
-        int gain(int,int)
-        int shapes(int)
-        int shape(int,int,int)
-        long ways(int,int,int)
-        int worse(int,int,boolean)
-        int left(int,int)
-        int rounds()
-        int safe(int,int)
-        int add(int,int)
-        int shut(int)
-        int book(int,int)
-        int value(int)
-        int best(int,int,int)
-        int valueWith(int,int,int)
-        int needless(int)
-        int plan(int,int,int)
-        int entry(int,int,int)
-        int hold(int,int)
-        int reply(int)
-        int meet()
-        int evenHold(int,int)
-        int evenShare(int,int,int)
-        int both(int)
-        int mean(int,int,int)
-        int state(int)
-        int draw(int,boolean)
-        int match(int)
-        int note(int,int)
-        int against(int,int)
-        int apart(int,int)
-        int count(int)
-        """;
+    private static final Path DOCUMENT = Path.of("../shared/DOC.md");
+    private static final Path CLASS = Path.of("src/main/java/SecretForces.java");
+    private static final Pattern METHOD = Pattern.compile("    public (\\w+) (\\w+)\\(([^)]*)\\)(?: throws (\\w+))?;");
+    private static final Pattern HEAD = Pattern.compile("(?m)^Ahead of the calls (.*) the interface says: (---- .*)\\.$");
 
     private FaceTest() {
     }
 
+    /** As the document writes it, without names of parameters. */
     private static String told(Method m) {
         String of = Arrays.stream(m.getParameterTypes()).map(Class::getName).collect(Collectors.joining(","));
-        return m.getReturnType().getName() + " " + m.getName() + "(" + of + ")";
+        String thrown = Arrays.stream(m.getExceptionTypes()).map(Class::getSimpleName).collect(Collectors.joining(","));
+        return m.getReturnType().getName() + " " + m.getName() + "(" + of + ")" + thrown;
+    }
+
+    private static String faceOf(String document) {
+        return document.split("\n## The public face\n")[1].split("```java\n")[1].split("```")[0];
+    }
+
+    private static TreeSet<String> methodsOf(String face) {
+        TreeSet<String> found = new TreeSet<>();
+        Matcher m = METHOD.matcher(face);
+        while (m.find()) {
+            String of = m.group(3).replaceAll(" \\w+(, |$)", "$1").replace(" ", "");
+            found.add(m.group(1) + " " + m.group(2) + "(" + of + ")" + (m.group(4) == null ? "" : m.group(4)));
+        }
+        return found;
+    }
+
+    /** Each line of the face stands in the class as it is, names of parameters too. */
+    private static void asWritten(String face, String code) {
+        for (String line : face.split("\n")) {
+            if (line.endsWith(");") || line.endsWith("Exception;") && line.startsWith(" ")) {
+                String head = line.substring(0, line.length() - 1) + " {\n";
+                Due.holds("the class has: " + line.trim(), code.contains("\n" + head));
+            } else if (line.length() > 1) {
+                Due.holds("the class has: " + line.trim(), code.contains(line + "\n"));
+            }
+        }
+    }
+
+    /** Calls stand behind the words that the interface says ahead of them, and before the next such words. */
+    private static void heads(String document, String code) {
+        Matcher m = HEAD.matcher(document);
+        int found = 0;
+        while (m.find()) {
+            found++;
+            String[] parts = code.split("(?m)^    // " + m.group(2) + "$");
+            Due.is("ahead of calls: " + m.group(2), parts.length, 2);
+            String under = parts[parts.length - 1].split("    // ---- ")[0];
+            List<String> calls = new ArrayList<>();
+            Matcher call = Pattern.compile("(?m)^    public \\w+ (\\w+)\\(").matcher(under);
+            while (call.find()) {
+                calls.add("`" + call.group(1) + "`");
+            }
+            Due.same("behind " + m.group(2), String.join(", ", calls), m.group(1));
+        }
+        Due.is("such words", found, 5);
     }
 
     private static void isPrivate(Member m) {
         Due.holds(m + " is private", Modifier.isPrivate(m.getModifiers()));
     }
 
-    public static void main(String[] args) {
+    public static void main(String[] args) throws IOException {
         Class<?> c = SecretForces.class;
+        String document = Files.readString(DOCUMENT);
+        String face = faceOf(document);
+        String code = Files.readString(CLASS);
+        asWritten(face, code);
+        heads(document, code);
         Due.holds("public and final", Modifier.isPublic(c.getModifiers()) && Modifier.isFinal(c.getModifiers()));
-        TreeSet<String> face = new TreeSet<>(List.of(FACE.split("\n")));
+        TreeSet<String> names = methods(c, face);
+        fields(c);
+        Constructor<?>[] made = c.getDeclaredConstructors();
+        Due.holds("one public constructor without arguments",
+            made.length == 1 && made[0].getParameterCount() == 0 && Modifier.isPublic(made[0].getModifiers()));
+        inside(c, names);
+        Due.end("FaceTest");
+    }
+
+    /** The names of the face. */
+    private static TreeSet<String> methods(Class<?> c, String face) {
         TreeSet<String> found = new TreeSet<>();
         TreeSet<String> names = new TreeSet<>();
         for (Method m : c.getDeclaredMethods()) {
@@ -76,12 +106,16 @@ public final class FaceTest {
                 found.add(told(m));
                 names.add(m.getName());
                 Due.holds(m + " is no static one", !Modifier.isStatic(m.getModifiers()));
-                Due.is(m + " throws", m.getExceptionTypes().length, m.getName().equals("split") ? 1 : 0);
             } else if (!m.isSynthetic()) {
                 isPrivate(m);
             }
         }
-        Due.same("the methods", found.toString(), face.toString());
+        Due.same("the methods", found.toString(), methodsOf(face).toString());
+        Due.is("how many methods", found.size(), 40);
+        return names;
+    }
+
+    private static void fields(Class<?> c) {
         for (Field f : c.getDeclaredFields()) {
             if (!f.getName().equals("NONE")) {
                 isPrivate(f);
@@ -89,11 +123,6 @@ public final class FaceTest {
                 Due.same("NONE", Modifier.toString(f.getModifiers()) + " " + f.getType(), "public static final int");
             }
         }
-        Constructor<?>[] made = c.getDeclaredConstructors();
-        Due.holds("one public constructor without arguments",
-            made.length == 1 && made[0].getParameterCount() == 0 && Modifier.isPublic(made[0].getModifiers()));
-        inside(c, names);
-        Due.end("FaceTest");
     }
 
     private static void inside(Class<?> c, TreeSet<String> names) {
