@@ -118,8 +118,8 @@ final class GameMeanings {
         Doc.says(Doc.TERMS, "BEST shares of a SIDE: of all that are as good as can be the greatest row of fractions, the first of its BOOK first");
         Random random = new Random(SEED + 1);
         for (Plain plain : Plain.many()) {
-            for (int run = 0; run < 3; run++) {
-                Books books = Books.of(random, plain, 3);
+            for (int run = 0; run < 12; run++) {
+                Books books = Books.of(random, plain, 4);
                 for (int side = 0; side < 2; side++) {
                     noneGreater(books, side);
                 }
